@@ -1384,8 +1384,8 @@ public final class HalfOaths {
         }
 
         private void emit(int step, int value) {
-            if (stepCount < steps.length) {
-                put(steps, stepCount, step * STEP + value);
+            if (stepCount >= 0 && stepCount < steps.length) {
+                steps[stepCount] = step * STEP + value;
                 stepCount++;
             }
         }
