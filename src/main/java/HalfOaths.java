@@ -503,10 +503,8 @@ public final class HalfOaths {
         fillAgainst();
         int best = held;
         for (int set = 0; set < 1 << MOST_PEOPLE; set++) {
-            int size = Integer.bitCount(set);
-            int bestSize = Integer.bitCount(best);
-            boolean better = size < bestSize || size == bestSize && set < best;
-            if ((set & ~held) == 0 && better && isPeaceful(held & ~set)) {
+            boolean fewer = Integer.bitCount(set) < Integer.bitCount(best);
+            if ((set & ~held) == 0 && fewer && isPeaceful(held & ~set)) {
                 best = set;
             }
         }
@@ -1008,17 +1006,13 @@ public final class HalfOaths {
 
         void scan(int[] bytes, int length) {
             int found = 0;
-            int i = 0;
-            while (i < length) {
-                int c = cell(bytes, i);
-                int stop = i + 1;
-                if (c != ' ') {
-                    stop = endOf(bytes, i, length);
+            for (int i = 0; i < length; i++) {
+                if (beginsSign(bytes, i)) {
+                    int stop = endOf(bytes, i, length);
                     addSign(found, signOf(bytes, i, stop), i);
-                    put(values, found, isDigit(c) ? numberOf(bytes, i, stop) : 0);
+                    put(values, found, isDigit(cell(bytes, i)) ? numberOf(bytes, i, stop) : 0);
                     found++;
                 }
-                i = stop;
             }
             addSign(found, Sign.TEXT_END, length);
             at = NONE;
@@ -1054,11 +1048,18 @@ public final class HalfOaths {
             return c >= '0' && c <= '9';
         }
 
+        private static boolean goOn(int before, int behind) {
+            return isLetter(before) && isLetter(behind) || isDigit(before) && isDigit(behind);
+        }
+
+        private static boolean beginsSign(int[] bytes, int i) {
+            int c = cell(bytes, i);
+            return c != ' ' && (i == 0 || !goOn(cell(bytes, i - 1), c));
+        }
+
         private static int endOf(int[] bytes, int begin, int length) {
-            int c = cell(bytes, begin);
             int stop = begin + 1;
-            while (stop < length && (isLetter(c) && isLetter(cell(bytes, stop))
-                    || isDigit(c) && isDigit(cell(bytes, stop)))) {
+            while (stop < length && goOn(cell(bytes, stop - 1), cell(bytes, stop))) {
                 stop++;
             }
             return stop;

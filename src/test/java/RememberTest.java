@@ -6,8 +6,10 @@ public final class RememberTest {
         seed();
         undo();
         undoEachAct();
+        undoOfRows();
         textsForget();
         image();
+        imageOfRows();
         count();
         Due.close("RememberTest");
     }
@@ -167,6 +169,40 @@ public final class RememberTest {
             all = all * 31 + x.count(what);
         }
         return all * 31 + x.mode(0) + 7 * x.log(0, 2);
+    }
+
+    private static void undoOfRows() {
+        HalfOaths x = Due.hills("oath go;oath wed;noise 0");
+        x.begin(1);
+        x.stop(1, 0);
+        x.begin(0);
+        for (int i = 0; i < 60; i++) {
+            x.stop(0, 1);
+        }
+        Due.same("42: the first row is gone", x.led(1, false), 0);
+        x.undo();
+        Due.same("42: the first row is there again", x.led(1, false), 1);
+        Due.same("42: as the first one", x.log(59, 1), 1);
+        Due.same("42: sixty rows yet", x.count(8), 60);
+        x.undo();
+        Due.same("42: one row fewer", x.count(8), 59);
+        Due.same("42: the first row stays", x.log(58, 1), 1);
+    }
+
+    private static void imageOfRows() {
+        HalfOaths x = Due.hills("oath go;oath wed;noise 0");
+        x.begin(0);
+        x.begin(1);
+        x.stop(0, 1);
+        x.stop(1, 0);
+        x.image();
+        x.undo();
+        x.stop(0, 3);
+        Due.same("44: another row at that place", x.log(0, 1), 0);
+        x.back();
+        Due.same("44: the row of the image", x.log(0, 1), 1);
+        Due.same("44: the row of the image", x.log(0, 2), 0);
+        Due.same("44: the row ahead of it", x.log(1, 2), 1);
     }
 
     private static void textsForget() {
