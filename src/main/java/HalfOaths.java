@@ -96,6 +96,7 @@ public final class HalfOaths {
     private static final int LAW_STACK = 32;
 
     private static final int MOST_ROW_BYTES = 40;
+    private static final int MOST_WRONG_ROWS = 1;
     private static final int MOST_COUGHS = 6;
     private static final int MOST_COUGH = 9;
     private static final int MOST_BREATHS = 99;
@@ -555,7 +556,7 @@ public final class HalfOaths {
     public int likely() throws IllegalArgumentException {
         int bytes = takeHeardRows();
         int best = NONE;
-        int fewest = MOST_ROW_BYTES;
+        int fewest = MOST_WRONG_ROWS + 1;
         for (int person = 0; person < now.people; person++) {
             int wrong = wrongRows(person, bytes);
             if (wrong < fewest) {
@@ -618,7 +619,7 @@ public final class HalfOaths {
     private int fittingBits(int bytes) {
         int bits = 0;
         for (int person = 0; person < now.people; person++) {
-            if (wrongRows(person, bytes) <= 1) {
+            if (wrongRows(person, bytes) <= MOST_WRONG_ROWS) {
                 bits |= 1 << person;
             }
         }

@@ -38,8 +38,27 @@ public final class HeardTest {
         Due.same("27: the fewest wrong rows", Due.tape(x, 0, 0, 2, 4).likely(), 1);
         Due.same("27: the fewest wrong rows", Due.tape(x, 0, 0, 3, 1).likely(), 3);
         Due.same("27: the fewest wrong rows", Due.tape(x, 0, 1).likely(), 4);
+        Due.same("27: one wrong row fits", Due.tape(x, 0, 9).likely(), 0);
+        Due.same("27: one wrong row fits, the least of several", Due.tape(x, 0, 2, 1, 10).likely(), 2);
+        Due.same("27: two wrong rows fit nobody", Due.tape(x, 0, 9, 0, 9).likely(), -1);
+        Due.same("27: two wrong rows fit nobody", Due.tape(x, 0, 9, 11, 0).likely(), -1);
+        Due.same("27: of those with two wrong rows none, the one with one", Due.tape(x, 0, 1, 1, 10, 2, 0).likely(), 4);
+        int[] wrong = new int[40];
+        Due.same("27: twenty rows, all wrong but of those who give", Due.tape(x, wrong).likely(), 0);
+        Due.same("27: twenty wrong rows", Due.tape(Due.hills("oath go"), wrong).likely(), -1);
+        fitsAsWhose(x);
         Due.same("27: the tape is used up", x.end(1), false);
         Due.same("27: of nobody", Due.tape(new HalfOaths(), 0, 0).likely(), -1);
+    }
+
+    /** LIKELY is one of those that WHOSE tells, and none just if that tells nobody. */
+    private static void fitsAsWhose(HalfOaths x) {
+        for (int rows = 0; rows < 12 * 11 * 11; rows++) {
+            int[] tape = {rows % 12, rows / 12 % 11, 1, rows / 132};
+            int fitting = Due.tape(x, tape).whose();
+            int likely = Due.tape(x, tape).likely();
+            Due.same("27: one that fits " + rows, likely < 0 ? fitting == 0 : (fitting >> likely & 1) == 1, true);
+        }
     }
 
     private static void ask() {

@@ -2,6 +2,7 @@ import java.nio.charset.StandardCharsets;
 import java.util.ArrayDeque;
 import java.util.ArrayList;
 import java.util.Arrays;
+import java.util.Comparator;
 import java.util.Deque;
 import java.util.List;
 import java.util.NoSuchElementException;
@@ -834,14 +835,8 @@ public final class Model {
 
     public int likely() {
         List<Integer> rows = rows();
-        for (int wrong = 0; wrong <= 20; wrong++) {
-            for (int person = 0; person < w.people.size(); person++) {
-                if (wrong(rows, person) == wrong) {
-                    return person;
-                }
-            }
-        }
-        return -1;
+        List<Integer> fitting = fitting(rows);
+        return fitting.stream().min(Comparator.comparing(person -> wrong(rows, person))).orElse(-1);
     }
 
     public int ask() {
