@@ -9,15 +9,36 @@ final class Due {
 
     private static int checked = 0;
     private static int wrong = 0;
+    private static String about = "";
 
     private Due() {
+    }
+
+    /** What stands ahead of all that is said of a wrong answer from here on. */
+    static void about(String words) {
+        about = words;
+    }
+
+    static int checked() {
+        return checked;
+    }
+
+    static void wrong(String what) {
+        wrong++;
+        System.out.println(about + what);
     }
 
     static void same(String what, long got, long want) {
         checked++;
         if (got != want) {
-            wrong++;
-            System.out.println(what + " answered " + got + ", due is " + want);
+            wrong(what + " answered " + got + ", due is " + want);
+        }
+    }
+
+    static void same(String what, String got, String want) {
+        checked++;
+        if (!got.equals(want)) {
+            wrong(what + " is " + got + ", due is " + want);
         }
     }
 
@@ -34,8 +55,7 @@ final class Due {
             got = e.getClass() == want ? null : "threw " + e.getClass().getName();
         }
         if (got != null) {
-            wrong++;
-            System.out.println(what + " " + got + ", due is " + want.getName());
+            wrong(what + " " + got + ", due is " + want.getName());
         }
     }
 
@@ -89,6 +109,37 @@ final class Due {
         HalfOaths x = hills(text);
         text(x, law).law();
         return x;
+    }
+
+    /** A text with just that line, so many times. */
+    static String lines(String line, int n) {
+        return line + (";" + line).repeat(n - 1);
+    }
+
+    /** The text of the hills is right: the hills of it. */
+    static HalfOaths rightHills(String text) {
+        HalfOaths x = new HalfOaths();
+        same("texts with " + text, text(x, text).hills(), 1);
+        same("fault of " + text, x.fault(), HalfOaths.NONE);
+        return x;
+    }
+
+    static void wrongHills(String text, int wrongByte) {
+        HalfOaths x = new HalfOaths();
+        noNumber("hills of " + text, text(x, text)::hills);
+        same("fault of " + text, x.fault(), wrongByte);
+    }
+
+    static void rightLaw(String text, int lines) {
+        HalfOaths x = new HalfOaths();
+        same("lines of " + text, text(x, text).law(), lines);
+        same("fault of " + text, x.fault(), HalfOaths.NONE);
+    }
+
+    static void wrongLaw(String text, int wrongByte) {
+        HalfOaths x = new HalfOaths();
+        noNumber("law of " + text, text(x, text)::law);
+        same("fault of " + text, x.fault(), wrongByte);
     }
 
     static void close(String name) {

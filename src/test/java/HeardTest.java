@@ -46,14 +46,15 @@ public final class HeardTest {
         int[] wrong = new int[40];
         Due.same("27: twenty rows, all wrong but of those who give", Due.tape(x, wrong).likely(), 0);
         Due.same("27: twenty wrong rows", Due.tape(Due.hills("oath go"), wrong).likely(), -1);
-        fitsAsWhose(x);
+        fitsAsWhose();
         Due.same("27: the tape is used up", x.end(1), false);
         Due.same("27: of nobody", Due.tape(new HalfOaths(), 0, 0).likely(), -1);
     }
 
     /** LIKELY is one of those that WHOSE tells, and none just if that tells nobody. */
-    private static void fitsAsWhose(HalfOaths x) {
+    private static void fitsAsWhose() {
         for (int rows = 0; rows < 12 * 11 * 11; rows++) {
+            HalfOaths x = Due.hills(PEOPLE);
             int[] tape = {rows % 12, rows / 12 % 11, 1, rows / 132};
             int fitting = Due.tape(x, tape).whose();
             int likely = Due.tape(x, tape).likely();
