@@ -478,6 +478,15 @@ final class TextEdges {
             Due.wrongLaw("hear 1 if to < 2", 10);
             Due.wrongLaw("hear 1 if 1 < whole", 14);
             Due.wrongLaw("hear 1 if 1 < (2)", 14);
+            HalfOaths x = Due.hills("oath go");
+            for (int more = 192; more <= 193; more++) {
+                Due.text(x, "hear 1 if " + "1+".repeat(192) + "1>" + more);
+                x.law();
+                Due.same("193 parts of 399 bytes, above " + more, x.reading(0, 1, 7), more == 192 ? 2 : 1);
+            }
+            Due.text(x, "hear 1 if 193<" + "1+".repeat(193));
+            Due.noNumber("400 bytes, and a part must come", x::law);
+            Due.same("at the text's length", x.fault(), 400);
         });
         Sentence.test(5, "( and not within one another at most 6 deep.", () -> {
             Due.rightLaw("hear 1 if ((((((whole))))))", 1);
@@ -490,6 +499,10 @@ final class TextEdges {
             Due.wrongLaw("hear 1 if ((((((whole or not empty))))))", 25);
             HalfOaths x = Due.hills("oath go", "hear 1 if not not not not not not whole;hear 2 if not(not(not(whole)))");
             Due.same("six times not, three times not", x.reading(0, 1, 7), 2);
+            String deep = "empty or whole and (".repeat(6) + "empty or whole and 1+1<1+1+count" + ")".repeat(6);
+            HalfOaths y = Due.hills("oath go go", "hear 1 if " + deep + ";hear 2 if " + deep.replace("1+1+count", "count+0"));
+            Due.same("six deep, each with or and and, of one word", y.reading(0, 1, 7), 1);
+            Due.same("of two words", y.reading(0, 2, 7), 2);
         });
     }
 
