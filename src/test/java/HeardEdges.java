@@ -108,6 +108,8 @@ final class HeardEdges {
             Due.same("the last place", Due.hills(eleven + " go;" + eleven).ask(), 11);
             Due.same("all alike, of several the least", Due.hills("oath go by 1;oath go by 2").ask(), 0);
             Due.same("of two the least", Due.hills("oath go by 1 not;oath go to 1 wed").ask(), 1);
+            Due.same("kind 0 is a part, too", Due.hills("oath give go;oath give wed").ask(), 1);
+            Due.same("kind 9 is a part, too", Due.hills("oath open shut go;oath open shut wed").ask(), 2);
             Due.same("one of three alone", Due.hills("oath go by 1;oath go not;oath go if 1").ask(), 1);
         });
     }
