@@ -74,6 +74,8 @@ public final class HeardTest {
         Due.same("28: alike by kinds", Due.tape(like).ask(), 0);
         HalfOaths late = Due.hills("oath go by 1;oath go by 2 not");
         Due.same("28: by a word that there is not", Due.tape(late).ask(), 2);
+        HalfOaths six = Due.hills(Due.lines("oath go go", 5) + ";oath go give");
+        Due.same("28: one of six is told apart", Due.tape(six).ask(), 1);
         Due.same("28: of nobody", Due.tape(new HalfOaths()).ask(), -1);
     }
 

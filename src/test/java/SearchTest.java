@@ -8,6 +8,7 @@ public final class SearchTest {
         peaceAndQuiet();
         pairs();
         rests();
+        askedAgain();
         Due.close("SearchTest");
     }
 
@@ -38,6 +39,8 @@ public final class SearchTest {
         x.law();
         isOrder("by the law: whose", x, 0, 7, 2, 0, 1);
         isOrder("by the law: how many", x, 2, 0, 0, 1, 2);
+        isOrder("no more count than there are", Due.hills("oath go by 6", "ease 40 if count > 2"), 0, 2, 0, 1);
+        isOrder("in no other order either", Due.hills("oath by 6 go to 1", "ease 40 if count > 3"), 0, 2, 1, 0, 2);
     }
 
     private static void orderOfUnits() {
@@ -166,5 +169,34 @@ public final class SearchTest {
         Due.same("32: sure 1, all 1", both.rests(0), 8);
         Due.outside("32", () -> x.rests(6));
         Due.outside("32", () -> x.rests(-1));
+    }
+
+    /** What was found ahead of an act does not stay behind it, where less is found then. */
+    private static void askedAgain() {
+        HalfOaths x = Due.hills("oath go to 1;oath give;oath go to 1 not");
+        Due.same("21: go, to 1", x.order(0, -1), 2);
+        Due.same("21: just give, by the same object", x.order(1, -1), 0);
+        Due.same("31: 0 and 2", x.pairs(-1), 2);
+        Due.same("31: 2", x.pairs(0), 2);
+        x.begin(0);
+        x.begin(2);
+        x.finish(0);
+        x.finish(2);
+        Due.same("23: both held", x.gainsay(0, 2), true);
+        Due.same("24: one of both", x.peace(), 1);
+        Due.same("25: one of both", x.quiet(), 1);
+        x.retract(0);
+        Due.same("23: one taken back", x.gainsay(0, 2), false);
+        Due.same("24: one held", x.peace(), 4);
+        Due.same("25: one held", x.quiet(), 0);
+        x.repeat(0, 1);
+        Due.same("21: told anew", x.order(0, -1), 0);
+        Due.same("31: 0 and 1 now", x.pairs(-1), 1);
+        Due.same("31: 1", x.pairs(0), 1);
+        Due.same("31: none", x.pairs(2), -1);
+        x.undo();
+        Due.same("21: go, to 1 again", x.order(0, -1), 2);
+        Due.same("31: 0 and 2 again", x.pairs(-1), 2);
+        Due.same("31: none again", x.pairs(1), -1);
     }
 }
